@@ -30,7 +30,6 @@ public final class PackedTree {
     private final Image now;
     private final Image committed;
     private final Tree keptTree;
-    private final Objects keptObjects;
     private final Journal journal;
     private final Power power;
     private final boolean[] changed;
@@ -42,7 +41,6 @@ public final class PackedTree {
         this.now = new Image(this.blocks);
         this.committed = new Image(this.blocks);
         this.keptTree = new Tree(this.blocks);
-        this.keptObjects = new Objects();
         this.journal = new Journal(nearest(journal, LEAST_JOURNAL, MOST_JOURNAL), this.blocks);
         this.power = new Power();
         this.changed = new boolean[this.blocks];
@@ -247,10 +245,9 @@ public final class PackedTree {
             throw new IllegalStateException("more is changed than the journal has room for");
         }
         int before = power.writes;
-        if (needed <= journal.room - journal.full || journal.empties(power)) {
-            if (journal.takes(changed, power)) {
-                committed.copyFrom(now);
-            }
+        boolean fits = needed <= journal.room - journal.full || journal.empties(power);
+        if (fits && journal.takes(changed, power)) {
+            committed.copyFrom(now);
         }
         return power.writes - before;
     }
@@ -346,15 +343,13 @@ public final class PackedTree {
     private void needRoom(boolean found) {
         if (!found) {
             now.tree.copyFrom(keptTree);
-            now.objects.copyFrom(keptObjects);
             throw new IllegalStateException("no block is free");
         }
     }
 
-    /** Keeps all but the bytes of files: these are laid only when no room can be wanting any more. */
+    /** Keeps the tree alone: bodies and bytes of files are changed only when no room can be wanting any more. */
     private void keep() {
         keptTree.copyFrom(now.tree);
-        keptObjects.copyFrom(now.objects);
     }
 
     private int toldBy(int dir, int name) {
@@ -391,6 +386,7 @@ public final class PackedTree {
         now.lay(object, scratch);
     }
 
+    /** Pointers behind those that a file has may be anything: a call that finds no room leaves some there. */
     private boolean changeData(int object, int had, int has) {
         int[] pointer = now.objects.pointer;
         for (int k = had; k < has; k++) {

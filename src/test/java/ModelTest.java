@@ -18,10 +18,20 @@ public final class ModelTest {
         long answer();
     }
 
-    private ModelTest(long seed) {
-        random = new Random(seed);
-        int blocks = random.nextInt(4) == 0 ? 10 + random.nextInt(30) : 16 + random.nextInt(90);
-        int journal = random.nextInt(3) == 0 ? random.nextInt(20) : 20 + random.nextInt(60);
+    private ModelTest(Random random) {
+        this(someBlocks(random), someJournal(random), random);
+    }
+
+    private static int someBlocks(Random random) {
+        return random.nextInt(3) == 0 ? 10 + random.nextInt(30) : 16 + random.nextInt(90);
+    }
+
+    private static int someJournal(Random random) {
+        return random.nextInt(3) == 0 ? random.nextInt(20) : 20 + random.nextInt(60);
+    }
+
+    private ModelTest(int blocks, int journal, Random random) {
+        this.random = random;
         names = random.nextBoolean() ? 12 : 1000;
         shape = random.nextInt(4);
         told.append("new PackedTree(").append(blocks).append(", ").append(journal).append(")\n");
@@ -299,12 +309,72 @@ public final class ModelTest {
         sameState();
     }
 
+    /** Inner nodes that come down to one child between neighbours that have five: too rare to wait for. */
+    private void runAmongInnerNodes() {
+        same("make(1, 0, false)", () -> tree.make(1, 0, false), () -> model.make(1, 0, false));
+        for (int i = 0; i < 260; i++) {
+            linkRoot(any(1000));
+        }
+        for (int round = 0; round < 25; round++) {
+            for (int i = 0; i < 60 && model.count(0) < 60; i++) {
+                linkRoot(any(1000));
+            }
+            java.util.List<PlainModel.Node> row = model.row(1);
+            PlainModel.Node node = row.get(any(4) == 0 ? 0 : any(row.size()));
+            fatten(model.neighbour(node, -1));
+            fatten(model.neighbour(node, 1));
+            thin(node);
+            sameState();
+            if (model.row(1).contains(node)) {
+                fatten(node);
+                same("commit()", tree::commit, model::commit);
+                split(node);
+            }
+            same("count(6)", () -> tree.count(6), () -> model.count(6));
+        }
+    }
+
+    private void linkRoot(int name) {
+        same("link(1, " + name + ", 2)", () -> tree.link(1, name, 2), () -> model.link(1, name, 2));
+    }
+
+    private void fatten(PlainModel.Node node) {
+        for (int i = 0; i < 200 && node != null && node.kids.size() < 5; i++) {
+            linkBelow(node);
+        }
+    }
+
+    private void split(PlainModel.Node node) {
+        for (int i = 0; i < 200 && node.kids.size() == 5; i++) {
+            linkBelow(node);
+        }
+        sameState();
+    }
+
+    private void linkBelow(PlainModel.Node node) {
+        java.util.List<PlainModel.Item> items = node.kids.get(any(node.kids.size())).items;
+        int from = items.get(0).name;
+        int to = items.get(items.size() - 1).name;
+        linkRoot(from + any(Math.max(1, to - from)));
+    }
+
+    private void thin(PlainModel.Node node) {
+        for (int i = 0; i < 20 + any(40) && model.row(1).contains(node); i++) {
+            java.util.List<PlainModel.Item> items = node.kids.get(any(node.kids.size())).items;
+            PlainModel.Item item = items.get(any(items.size()));
+            if (item.kind == PackedTree.ENTRY) {
+                same("unlink(1, " + item.name + ")", () -> tree.unlink(1, item.name), () -> model.unlink(1, item.name));
+            }
+        }
+    }
+
     public static void main(String[] args) {
         int runs = args.length > 0 ? Integer.parseInt(args[0]) : 150;
         int from = args.length > 1 ? Integer.parseInt(args[1]) : 1;
         for (int seed = from; seed < from + runs; seed++) {
             try {
-                new ModelTest(seed).run(seed % 3 == 0 ? 2000 : 512);
+                new ModelTest(new Random(seed * 7919L)).run(seed % 3 == 0 ? 2000 : 512);
+                new ModelTest(96, 64, new Random(seed * 7919L)).runAmongInnerNodes();
             } catch (AssertionError e) {
                 System.out.println("run " + seed + ":\n" + e.getMessage());
                 System.exit(1);
