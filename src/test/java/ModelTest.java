@@ -1,8 +1,14 @@
+import java.util.List;
 import java.util.Random;
 
-/** Long runs of calls, PackedTree beside PlainModel: every answer, every exception and the whole state must agree. */
+/**
+ * Runs of calls, PackedTree beside PlainModel: every answer and every exception must agree, and at the end what can be
+ * asked of the whole. No object has more than 512 calls.
+ */
 public final class ModelTest {
-    private static final int LOOKS = 9;
+    private static final int MOST_CALLS = 512;
+    /** So many calls are kept for the questions at the end. */
+    private static final int QUESTIONS = 160;
     private final PackedTree tree;
     private final PlainModel model;
     private final Random random;
@@ -10,13 +16,10 @@ public final class ModelTest {
     private final int names;
     private final int shape;
     private boolean growing = true;
+    private int calls = 0;
     private static int heights = 0;
     private static int refused = 0;
     private static int outages = 0;
-
-    private interface Call {
-        long answer();
-    }
 
     private ModelTest(Random random) {
         this(someBlocks(random), someJournal(random), random);
@@ -39,18 +42,19 @@ public final class ModelTest {
         model = new PlainModel(blocks, journal);
     }
 
-    private static String outcome(Call call) {
-        try {
-            return Long.toString(call.answer());
-        } catch (RuntimeException e) {
-            return e.getClass().getSimpleName();
-        }
+    private boolean hasCalls(int left) {
+        return calls + left < MOST_CALLS;
     }
 
-    private void same(String text, Call a, Call b) {
-        String got = outcome(a);
-        String due = outcome(b);
-        told.append(text).append(" -> ").append(due).append('\n');
+    private void same(String name, long... args) {
+        if (!hasCalls(0)) {
+            return;
+        }
+        calls++;
+        Call call = new Call(name, args);
+        String got = call.answer(tree);
+        String due = model.answer(call);
+        told.append(call).append(" -> ").append(due).append('\n');
         if (due.equals("IllegalStateException")) {
             refused++;
         }
@@ -63,15 +67,7 @@ public final class ModelTest {
         return random.nextInt(below);
     }
 
-    /** Mostly a directory that is there. */
-    private int someDirectory() {
-        return some(true);
-    }
-
-    private int someFile() {
-        return some(false);
-    }
-
+    /** Mostly a directory, or a file, that is there. */
     private int some(boolean directory) {
         if (any(40) == 0) {
             return any(64) - 1;
@@ -107,13 +103,13 @@ public final class ModelTest {
     }
 
     private void oneCall() {
-        if (any(150) == 0) {
+        if (any(120) == 0) {
             growing = !growing;
         }
         int kind = any(100);
-        if (kind < 62) {
+        if (kind < 74) {
             changeTree(any(10) < 8 == growing);
-        } else if (kind < 80) {
+        } else if (kind < 84) {
             ask();
         } else {
             keepSafe();
@@ -125,255 +121,196 @@ public final class ModelTest {
         if (kind < 2) {
             move();
         } else if (more && (shape == 0 ? kind < 8 : shape == 1 ? kind < 3 : kind < 5)) {
-            link();
+            same("link", some(true), someName(), some(false));
         } else if (more && kind < 6) {
-            make();
+            same("make", some(true), someName(), any(4) == 0 ? 1 : 0);
         } else if (more) {
             grow();
         } else if (kind < 6) {
-            int dir = someDirectory();
-            int name = nameIn(dir);
-            same("unlink(" + dir + ", " + name + ")", () -> tree.unlink(dir, name), () -> model.unlink(dir, name));
+            int dir = some(true);
+            same("unlink", dir, nameIn(dir));
         } else {
-            int file = someFile();
-            int size = any(30) == 0 ? sizeOf(file) + 3 - any(6) : any(sizeOf(file) + 1);
-            same("cut(" + file + ", " + size + ")", () -> tree.cut(file, size), () -> model.cut(file, size));
+            int file = some(false);
+            same("cut", file, any(30) == 0 ? sizeOf(file) + 3 - any(6) : any(sizeOf(file) + 1));
         }
-    }
-
-    private void make() {
-        int dir = someDirectory();
-        int name = someName();
-        boolean directory = any(4) == 0;
-        same("make(" + dir + ", " + name + ", " + directory + ")", () -> tree.make(dir, name, directory),
-                () -> model.make(dir, name, directory));
-    }
-
-    private void link() {
-        int dir = someDirectory();
-        int name = someName();
-        int file = someFile();
-        same("link(" + dir + ", " + name + ", " + file + ")", () -> tree.link(dir, name, file),
-                () -> model.link(dir, name, file));
     }
 
     private void move() {
-        int dir = someDirectory();
+        int dir = some(true);
         int name = nameIn(dir);
-        int to = any(3) == 0 ? dir : someDirectory();
-        int as = any(8) == 0 ? name : someName();
-        same("move(" + dir + ", " + name + ", " + to + ", " + as + ")", () -> tree.move(dir, name, to, as),
-                () -> model.move(dir, name, to, as));
+        same("move", dir, name, any(3) == 0 ? dir : some(true), any(8) == 0 ? name : someName());
     }
 
     private void grow() {
-        int file = someFile();
+        int file = some(false);
         int at = any(3) > 0 ? sizeOf(file) : any(sizeOf(file) + 2) - any(2);
         if (any(3) == 0) {
-            int n = any(20) == 0 ? any(20) - 5 : 1 + any(8);
-            long w = random.nextLong();
-            same("write(" + file + ", " + at + ", " + w + "L, " + n + ")", () -> tree.write(file, at, w, n),
-                    () -> model.write(file, at, w, n));
+            same("write", file, at, random.nextLong(), any(20) == 0 ? any(20) - 5 : 1 + any(8));
             return;
         }
         int n = any(20) == 0 ? any(1030) - 5 : 1 + any(any(2) == 0 && shape != 3 ? 512 : 45);
-        int seed = any(3) == 0 ? random.nextInt() : any(3);
-        same("fill(" + file + ", " + at + ", " + seed + ", " + n + ")", () -> tree.fill(file, at, seed, n),
-                () -> model.fill(file, at, seed, n));
+        same("fill", file, at, any(3) == 0 ? random.nextInt() : any(3), n);
     }
 
     private void ask() {
-        int object = any(2) == 0 ? someFile() : someDirectory();
-        int name = any(4) == 0 ? nameIn(object) : someName();
-        int k = any(2100) - 10;
+        int object = some(any(2) == 0);
         int few = any(14) - 2;
-        int height = any(6) - 1;
-        same("read(" + object + ", " + k + ")", () -> tree.read(object, k), () -> model.read(object, k));
-        same("look(" + object + ", " + name + ")", () -> tree.look(object, name), () -> model.look(object, name));
-        same("name(" + object + ", " + few + ")", () -> tree.name(object, few), () -> model.name(object, few));
-        same("about(" + object + ", " + few + ")", () -> tree.about(object, few), () -> model.about(object, few));
-        same("node(" + height + ", " + few + ", " + any(1) + ")", () -> tree.node(height, few, 0),
-                () -> model.node(height, few, 0));
-        same("item(" + few + ", 7)", () -> tree.item(few, 7), () -> model.item(few, 7));
-        same("count(" + few + ")", () -> tree.count(few), () -> model.count(few));
+        switch (any(7)) {
+            case 0 -> same("read", object, any(2100) - 10);
+            case 1 -> same("look", object, any(4) == 0 ? nameIn(object) : someName());
+            case 2 -> same("name", object, few);
+            case 3 -> same("about", object, few);
+            case 4 -> same("node", any(6) - 1, few, any(7) - 1);
+            case 5 -> same("item", any(30) - 1, any(8) - 1);
+            default -> same("count", few);
+        }
     }
 
     private void keepSafe() {
         int kind = any(40);
         if (kind < 20) {
-            same("commit()", tree::commit, model::commit);
+            same("commit");
         } else if (kind < 23) {
-            same("checkpoint()", tree::checkpoint, model::checkpoint);
-        } else if (kind < 24) {
-            same("back()", tree::back, model::back);
-        } else if (kind < 28) {
-            int n = any(12) == 0 ? -2 : any(5) == 0 ? -1 : any(any(2) == 0 ? 8 : 60);
-            same("fail(" + n + ")", () -> told(n), () -> model.fail(n));
-        } else if (kind < 30) {
-            same("recover()", tree::recover, model::recover);
+            same("checkpoint");
+        } else if (kind < 25) {
+            same("back");
+        } else if (kind < 29) {
+            same("fail", any(12) == 0 ? -2 : any(5) == 0 ? -1 : any(any(2) == 0 ? 8 : 60));
+        } else if (kind < 31) {
+            same("recover");
+        } else {
+            same("count", 6);
         }
         for (int tries = 0; tries < 5 && model.off; tries++) {
             outages++;
-            int n = any(4) - 1 + any(2) * any(12);
             if (any(2) == 0) {
-                same("fail(" + n + ")", () -> told(n), () -> model.fail(n));
+                same("fail", any(4) - 1 + any(2) * any(12));
             }
-            same("count(8)", () -> tree.count(8), () -> model.count(8));
-            same("recover()", tree::recover, model::recover);
+            if (any(3) == 0) {
+                same("count", 8);
+            }
+            same("recover");
+            same("off");
         }
-        same("off()", () -> tree.off() ? 1 : 0, () -> model.off ? 1 : 0);
     }
 
-    private long told(int n) {
-        tree.fail(n);
-        return 0;
-    }
-
-    private void sameState() {
+    /** Counts and nodes first, then items, objects and bytes here and there, as long as there are calls. */
+    private void lookAround() {
         if (model.off) {
             return;
         }
         heights = Math.max(heights, model.count(2));
-        for (int what = 0; what <= LOOKS; what++) {
-            int w = what;
-            agree("count " + w, tree.count(w), model.count(w));
+        for (int what = 0; what <= 9; what++) {
+            same("count", what);
         }
         for (int h = 0; h < model.count(2); h++) {
-            int k = 0;
-            for (PlainModel.Node n : model.row(h)) {
-                agree("node's block", tree.node(h, k, 0), n.block);
-                agree("node's members", tree.node(h, k, 1), n.items.size() + n.kids.size());
-                agree("node's USED", tree.node(h, k, 2), n.used());
-                PlainModel.Node p = model.parent(n);
-                agree("node's parent", tree.node(h, k, 3), p == null ? -1 : p.block);
-                k++;
+            List<PlainModel.Node> row = model.row(h);
+            for (int k = 0; k < row.size(); k++) {
+                same("node", h, k, 0);
+                same("node", h, k, h == 0 ? 2 : 1);
+                if (h > 0 || any(3) == 0) {
+                    same("node", h, k, 3);
+                }
             }
-            agree("end of row", outcomeLength(h, k), 1);
         }
-        sameItems();
-        sameObjects();
-    }
-
-    private int outcomeLength(int h, int k) {
-        return outcome(() -> tree.node(h, k, 0)).equals("IndexOutOfBoundsException") ? 1 : 0;
-    }
-
-    private void sameItems() {
-        int k = 0;
-        for (PlainModel.Node leaf : model.row(0)) {
-            for (PlainModel.Item i : leaf.items) {
-                agree("item's object", tree.item(k, 0), i.object);
-                agree("item's kind", tree.item(k, 1), i.kind);
-                agree("item's name", tree.item(k, 2), i.name);
-                agree("item's bytes", tree.item(k, 3), i.bytes);
-                agree("item's leaf", tree.item(k, 4), leaf.block);
-                k++;
-            }
+        while (hasCalls(0)) {
+            lookAnywhere();
         }
     }
 
-    private void sameObjects() {
-        for (int n = 1; n <= 60; n++) {
-            PlainModel.Thing t = model.world.things.get(n);
-            if (t == null) {
-                continue;
-            }
-            for (int what = 0; what < 5 + t.data.size(); what++) {
-                agree("about " + n + " " + what, tree.about(n, what), model.about(n, what));
-            }
-            int k = 0;
-            for (int name : t.entries.keySet()) {
-                agree("name " + k, tree.name(n, k), name);
-                agree("look " + name, tree.look(n, name), t.entries.get(name));
-                k++;
-            }
-            for (int b = 0; b < t.bytes.size(); b++) {
-                agree("byte " + b, tree.read(n, b), t.bytes.get(b));
-            }
+    private void lookAnywhere() {
+        int file = some(false);
+        int dir = some(true);
+        switch (any(6)) {
+            case 0 -> same("item", any(model.count(4)), any(5));
+            case 1 -> same("about", any(2) == 0 ? file : dir, any(8));
+            case 2 -> same("read", file, any(sizeOf(file) + 1));
+            case 3 -> same("read", file, Math.max(0, sizeOf(file) - 1 - any(41)));
+            case 4 -> same("name", dir, any(sizeOf(dir) + 1));
+            default -> same("look", dir, nameIn(dir));
         }
     }
 
-    private void agree(String what, long got, long due) {
-        if (got != due) {
-            throw new AssertionError(told + what + " is " + got + ", due is " + due);
-        }
-    }
-
-    private void run(int calls) {
-        for (int i = 0; i < calls; i++) {
+    private void run() {
+        int questions = QUESTIONS + any(200);
+        while (hasCalls(questions)) {
             oneCall();
-            if (any(10) == 0) {
-                sameState();
+        }
+        lookAround();
+    }
+
+    /** Small files with TAILs and few data blocks are made, then go again: leaves give way and join, one by one. */
+    private void runOfSmallFiles() {
+        int grown = 20 + any(120);
+        for (int k = 0; k < grown; k++) {
+            int object = 1 + any(12);
+            switch (any(10)) {
+                case 0, 1, 2, 3 -> same("make", any(3) == 0 ? object : 1, any(20), any(5) == 0 ? 1 : 0);
+                case 4, 5 -> same("link", object, any(20), 1 + any(12));
+                default -> same("fill", object, 0, 1, any(2) == 0 ? 1 + any(40) : 128 * (1 + any(3)) + any(41));
             }
         }
-        sameState();
+        int shrunk = 20 + any(120);
+        for (int k = 0; k < shrunk; k++) {
+            int object = 1 + any(12);
+            switch (any(10)) {
+                case 0, 1, 2, 3 -> same("unlink", any(3) == 0 ? object : 1, any(20));
+                case 4 -> same("make", 1, any(20), 0);
+                case 5, 6, 7 -> same("cut", object, any(3) == 0 ? 128 + any(41) : any(41));
+                case 8 -> same("fill", object, 0, 1, 1 + any(170));
+                default -> keepSafe();
+            }
+        }
+        lookAround();
     }
 
     /** Inner nodes that come down to one child between neighbours that have five: too rare to wait for. */
     private void runAmongInnerNodes() {
-        same("make(1, 0, false)", () -> tree.make(1, 0, false), () -> model.make(1, 0, false));
-        for (int i = 0; i < 260; i++) {
-            linkRoot(any(1000));
+        same("make", 1, 0, 0);
+        int links = 150 + any(80);
+        for (int i = 0; i < links; i++) {
+            same("link", 1, any(1000), 2);
         }
-        for (int round = 0; round < 25; round++) {
-            for (int i = 0; i < 60 && model.count(0) < 60; i++) {
-                linkRoot(any(1000));
-            }
-            java.util.List<PlainModel.Node> row = model.row(1);
+        while (hasCalls(QUESTIONS + 20) && model.count(2) > 1) {
+            List<PlainModel.Node> row = model.row(1);
             PlainModel.Node node = row.get(any(4) == 0 ? 0 : any(row.size()));
             fatten(model.neighbour(node, -1));
             fatten(model.neighbour(node, 1));
             thin(node);
-            sameState();
-            if (model.row(1).contains(node)) {
-                fatten(node);
-                same("commit()", tree::commit, model::commit);
-                split(node);
+            if (any(3) == 0) {
+                same("commit");
             }
-            same("count(6)", () -> tree.count(6), () -> model.count(6));
+            same("count", 6);
         }
-    }
-
-    private void linkRoot(int name) {
-        same("link(1, " + name + ", 2)", () -> tree.link(1, name, 2), () -> model.link(1, name, 2));
+        lookAround();
     }
 
     private void fatten(PlainModel.Node node) {
-        for (int i = 0; i < 200 && node != null && node.kids.size() < 5; i++) {
-            linkBelow(node);
+        while (hasCalls(QUESTIONS) && node != null && node.kids.size() < 5) {
+            List<PlainModel.Item> items = node.kids.get(any(node.kids.size())).items;
+            int from = items.get(0).name;
+            int to = items.get(items.size() - 1).name;
+            same("link", 1, from + any(Math.max(1, to - from)), 2);
         }
-    }
-
-    private void split(PlainModel.Node node) {
-        for (int i = 0; i < 200 && node.kids.size() == 5; i++) {
-            linkBelow(node);
-        }
-        sameState();
-    }
-
-    private void linkBelow(PlainModel.Node node) {
-        java.util.List<PlainModel.Item> items = node.kids.get(any(node.kids.size())).items;
-        int from = items.get(0).name;
-        int to = items.get(items.size() - 1).name;
-        linkRoot(from + any(Math.max(1, to - from)));
     }
 
     private void thin(PlainModel.Node node) {
-        for (int i = 0; i < 20 + any(40) && model.row(1).contains(node); i++) {
-            java.util.List<PlainModel.Item> items = node.kids.get(any(node.kids.size())).items;
+        for (int tries = 0; tries < 400 && hasCalls(QUESTIONS) && model.row(1).contains(node); tries++) {
+            List<PlainModel.Item> items = node.kids.get(any(Math.min(2, node.kids.size()))).items;
             PlainModel.Item item = items.get(any(items.size()));
             if (item.kind == PackedTree.ENTRY) {
-                same("unlink(1, " + item.name + ")", () -> tree.unlink(1, item.name), () -> model.unlink(1, item.name));
+                same("unlink", 1, item.name);
             }
         }
     }
 
     public static void main(String[] args) {
-        int runs = args.length > 0 ? Integer.parseInt(args[0]) : 150;
+        int runs = args.length > 0 ? Integer.parseInt(args[0]) : 1500;
         int from = args.length > 1 ? Integer.parseInt(args[1]) : 1;
         for (int seed = from; seed < from + runs; seed++) {
             try {
-                new ModelTest(new Random(seed * 7919L)).run(seed % 3 == 0 ? 2000 : 512);
+                new ModelTest(new Random(seed * 7919L)).run();
+                new ModelTest(new Random(seed * 7919L)).runOfSmallFiles();
                 new ModelTest(96, 64, new Random(seed * 7919L)).runAmongInnerNodes();
             } catch (AssertionError e) {
                 System.out.println("run " + seed + ":\n" + e.getMessage());

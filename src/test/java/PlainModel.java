@@ -406,6 +406,40 @@ final class PlainModel {
 
     // ---- the calls
 
+    private long on(Call c) {
+        return switch (c.name()) {
+            case "make" -> make(c.at(0), c.at(1), c.at(2) != 0);
+            case "link" -> link(c.at(0), c.at(1), c.at(2));
+            case "unlink" -> unlink(c.at(0), c.at(1));
+            case "move" -> move(c.at(0), c.at(1), c.at(2), c.at(3));
+            case "write" -> write(c.at(0), c.at(1), c.args()[2], c.at(3));
+            case "fill" -> fill(c.at(0), c.at(1), c.at(2), c.at(3));
+            case "cut" -> cut(c.at(0), c.at(1));
+            case "read" -> read(c.at(0), c.at(1));
+            case "look" -> look(c.at(0), c.at(1));
+            case "name" -> name(c.at(0), c.at(1));
+            case "about" -> about(c.at(0), c.at(1));
+            case "node" -> node(c.at(0), c.at(1), c.at(2));
+            case "item" -> item(c.at(0), c.at(1));
+            case "commit" -> commit();
+            case "checkpoint" -> checkpoint();
+            case "back" -> back();
+            case "fail" -> fail(c.at(0));
+            case "off" -> off ? 1 : 0;
+            case "recover" -> recover();
+            case "count" -> count(c.at(0));
+            default -> throw new AssertionError("there is no call " + c);
+        };
+    }
+
+    String answer(Call c) {
+        try {
+            return Long.toString(on(c));
+        } catch (RuntimeException e) {
+            return e.getClass().getSimpleName();
+        }
+    }
+
     void power() {
         if (off) {
             throw new UnsupportedOperationException();
